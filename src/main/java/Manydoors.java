@@ -671,7 +671,9 @@ public final class Manydoors {
 
   private boolean isPressSound(Press press) {
     sparePress.startAnew(press.width, press.indent);
-    sparePress.takeAll(press.fed);
+    for (int i = 0; i < press.fed.size(); i++) {
+      sparePress.takeSign(press.fed.signOf(i));
+    }
     return sparePress.page.sameAs(press.page)
         && sparePress.word.sameAs(press.word)
         && press.areLinesSound();
