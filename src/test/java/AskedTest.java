@@ -11,7 +11,6 @@ public final class AskedTest {
     keptAndRows();
     stepsAndMarks();
     askingChangesNothing();
-    wrongInputs();
     check.finish();
   }
 
@@ -172,44 +171,5 @@ public final class AskedTest {
     x.house(0);
     x.isSound();
     check.due("digest() behind all that is asked", x.digest(), before);
-  }
-
-  private static void wrongInputs() {
-    Manydoors x = filled();
-    for (int writer : new int[] {-1, 8, Integer.MIN_VALUE, Integer.MAX_VALUE}) {
-      check.noIndex(x, "text", () -> x.text(writer, 3));
-      check.noIndex(x, "length", () -> x.length(writer, 2));
-      check.noIndex(x, "signAt", () -> x.signAt(writer, 0));
-      check.noIndex(x, "order", () -> x.order(writer, 0));
-      check.noIndex(x, "order, other", () -> x.order(0, writer));
-      check.noIndex(x, "find", () -> x.find(writer, 0, true));
-      check.noIndex(x, "find, slot", () -> x.find(0, writer, true));
-      check.noIndex(x, "turned", () -> x.turned(writer));
-      check.noIndex(x, "keptText", () -> x.keptText(writer));
-      check.noIndex(x, "isKept", () -> x.isKept(0, writer));
-      check.noIndex(x, "isKept, slot", () -> x.isKept(writer, 0));
-      check.noIndex(x, "rowText", () -> x.rowText(writer));
-      check.noIndex(x, "steps", () -> x.steps(writer, true));
-      check.noIndex(x, "markOf", () -> x.markOf(writer));
-    }
-    for (int open : new int[] {-1, 6, 7, Integer.MIN_VALUE, Integer.MAX_VALUE}) {
-      check.noIndex(x, "joined, first", () -> x.joined(open, 0, 0, true));
-      check.noIndex(x, "joined, second", () -> x.joined(0, open, 0, true));
-      check.noIndex(x, "joined, third", () -> x.joined(0, 0, open, false));
-    }
-    for (int wrong : new int[] {-1, 121, Integer.MIN_VALUE, Integer.MAX_VALUE}) {
-      check.noIndex(x, "signAt, place", () -> x.signAt(0, wrong));
-      check.noArgument(x, "text, how", () -> x.text(0, wrong));
-      check.noArgument(x, "length, how", () -> x.length(0, wrong));
-    }
-    check.noArgument(x, "text, how 3", () -> x.text(7, 3));
-    check.noArgument(x, "length, how 2", () -> x.length(7, 2));
-    check.noIndex(x, "find, slot 4", () -> x.find(0, 4, false));
-    check.noIndex(x, "keptText 4", () -> x.keptText(4));
-    check.noIndex(x, "isKept, slot 4", () -> x.isKept(4, 0));
-    check.noIndex(x, "rowText 2", () -> x.rowText(2));
-    check.noIndex(x, "steps 3", () -> x.steps(3, false));
-    check.noIndex(x, "markOf 2", () -> x.markOf(2));
-    check.noIndex(x, "markOf 6", () -> x.markOf(6));
   }
 }

@@ -23,22 +23,6 @@ final class Check {
     }
   }
 
-  /** The call throws IndexOutOfBoundsException and changes nothing. */
-  void noIndex(Manydoors x, String what, Call call) {
-    throwing(x, what, call, "java.lang.IndexOutOfBoundsException");
-  }
-
-  /** The call throws IllegalArgumentException and changes nothing. */
-  void noArgument(Manydoors x, String what, Call call) {
-    throwing(x, what, call, "java.lang.IllegalArgumentException");
-  }
-
-  private void throwing(Manydoors x, String what, Call call, String want) {
-    long before = x.digest();
-    due(what + " throws", thrownBy(call), want);
-    due("digest() behind " + what, x.digest(), before);
-  }
-
   static String thrownBy(Call call) {
     try {
       call.run();

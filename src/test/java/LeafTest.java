@@ -15,7 +15,6 @@ public final class LeafTest {
     newStepForgetsWhatWasTakenBack();
     everyActIsOneStep();
     sheetsStandAlone();
-    wrongInputs();
     check.finish();
   }
 
@@ -232,48 +231,5 @@ public final class LeafTest {
     check.due("sheet 1", x.text(1, 0), "qlgb");
     check.due("sheet 2", x.text(2, 0), "");
     check.due("steps", x.steps(0, false) * 100 + x.steps(1, false) * 10 + x.steps(2, false), 120);
-  }
-
-  private static void wrongInputs() {
-    Manydoors x = withText(0, 0, 9);
-    x.turn(0);
-    x.undo(0, 1);
-    for (int sheet : new int[] {-1, 3, 4, 7, Integer.MIN_VALUE, Integer.MAX_VALUE}) {
-      check.noIndex(x, "insert", () -> x.insert(sheet, 0, 32, 25, 25));
-      check.noIndex(x, "insertNumber", () -> x.insertNumber(sheet, 0, 10000));
-      check.noIndex(x, "cut", () -> x.cut(sheet, 0, 0));
-      check.noIndex(x, "cutAt", () -> x.cutAt(sheet, 0));
-      check.noIndex(x, "change", () -> x.change(sheet, 0, 32));
-      check.noIndex(x, "turn", () -> x.turn(sheet));
-      check.noIndex(x, "toLength", () -> x.toLength(sheet, 121));
-      check.noIndex(x, "undo", () -> x.undo(sheet, 0));
-      check.noIndex(x, "redo", () -> x.redo(sheet, 13));
-    }
-    for (int place : new int[] {-1, 121, Integer.MIN_VALUE, Integer.MAX_VALUE}) {
-      check.noIndex(x, "insert, place", () -> x.insert(0, place, 32, 25, 25));
-      check.noIndex(x, "insertNumber, place", () -> x.insertNumber(0, place, 10000));
-      check.noIndex(x, "cut, from", () -> x.cut(0, place, 0));
-      check.noIndex(x, "cut, to", () -> x.cut(0, 0, place));
-      check.noIndex(x, "cutAt, place", () -> x.cutAt(0, place));
-      check.noIndex(x, "change, place", () -> x.change(0, place, 32));
-      check.noArgument(x, "toLength, length", () -> x.toLength(0, place));
-    }
-    for (int wrong : new int[] {-1, 32, Integer.MIN_VALUE, Integer.MAX_VALUE}) {
-      check.noArgument(x, "insert, seed", () -> x.insert(0, 120, wrong, 0, 0));
-      check.noArgument(x, "insert, from", () -> x.insert(0, 120, 0, wrong, 0));
-      check.noArgument(x, "insert, many", () -> x.insert(0, 120, 0, 0, wrong));
-      check.noArgument(x, "change, letter", () -> x.change(0, 120, wrong));
-      check.noArgument(x, "undo, many", () -> x.undo(0, wrong));
-      check.noArgument(x, "redo, many", () -> x.redo(0, wrong));
-    }
-    check.noArgument(x, "insert, from 25", () -> x.insert(0, 0, 0, 25, 0));
-    check.noArgument(x, "insert, many 25", () -> x.insert(0, 0, 0, 0, 25));
-    check.noArgument(x, "number 10000", () -> x.insertNumber(0, 0, 10000));
-    check.noArgument(x, "number -10000", () -> x.insertNumber(0, 0, -10000));
-    check.noArgument(x, "the least number", () -> x.insertNumber(0, 0, Integer.MIN_VALUE));
-    check.noArgument(x, "undo 0", () -> x.undo(0, 0));
-    check.noArgument(x, "undo 13", () -> x.undo(0, 13));
-    check.noArgument(x, "redo 0", () -> x.redo(0, 0));
-    check.noArgument(x, "redo 13", () -> x.redo(0, 13));
   }
 }

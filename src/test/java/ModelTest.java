@@ -4,8 +4,9 @@ import java.util.Arrays;
 import java.util.HashMap;
 import java.util.Map;
 
-/** Runs of 512 calls, arguments in and out of their bounds, compared with PlainModel (promises 1 to 46). */
+/** Runs of 512 calls (what later calls answer is free), arguments in and out of their bounds, compared with PlainModel (promises 1 to 46). */
 public final class ModelTest {
+  // The last one is that of digest(); where that is called behind each one, they are twice as many.
   private static final int CALLS = 512;
 
   // The bounds of each argument, "low..high"; b is a boolean. A call's weight is how often it stands here.
@@ -122,7 +123,8 @@ public final class ModelTest {
     Manydoors x = new Manydoors();
     PlainModel model = new PlainModel();
     int wrongOneIn = number % 4 == 0 ? 12 : 60;
-    for (int i = 0; i < CALLS; i++) {
+    int calls = isLookedAtOften ? CALLS / 2 : CALLS - 1;
+    for (int i = 0; i < calls; i++) {
       String[] words = CALLS_AND_BOUNDS[next(CALLS_AND_BOUNDS.length)].split(" ");
       Object[] arguments = new Object[words.length - 1];
       for (int a = 0; a < arguments.length; a++) {
@@ -135,7 +137,9 @@ public final class ModelTest {
         check.due("digest() behind " + what, x.digest(), model.digest());
       }
     }
-    check.due("run " + number + ": digest() at its end", x.digest(), model.digest());
+    if (!isLookedAtOften) {
+      check.due("run " + number + ": digest() at its end", x.digest(), model.digest());
+    }
   }
 
   public static void main(String[] args) {

@@ -16,7 +16,6 @@ public final class PressTest {
     otherSigns();
     wouldSets();
     lines();
-    wrongInputs();
     check.finish();
   }
 
@@ -242,50 +241,5 @@ public final class PressTest {
     check.due("how many", x.pressNumber(0, 6), 5);
     check.due("line 0 of a page without a sign", x.line(1, 0), "");
     check.due("line behind the last slash", fed(6, 2, "a/").line(0, 1), "");
-  }
-
-  private static void wrongInputs() {
-    Manydoors x = fed(8, 1, "ab,cd/e");
-    x.keep(0, 6);
-    for (int press : new int[] {-1, 2, 6, Integer.MIN_VALUE, Integer.MAX_VALUE}) {
-      check.noIndex(x, "begin", () -> x.begin(press, 3, 4));
-      check.noIndex(x, "feed", () -> x.feed(press, 32, 25, 25, 7));
-      check.noIndex(x, "feedLetter", () -> x.feedLetter(press, 32, 7));
-      check.noIndex(x, "feedKept", () -> x.feedKept(press, 0, 7));
-      check.noIndex(x, "line", () -> x.line(press, 121));
-      check.noIndex(x, "word", () -> x.word(press));
-      check.noIndex(x, "pressNumber", () -> x.pressNumber(press, 7));
-    }
-    for (int slot : new int[] {-1, 4, Integer.MIN_VALUE, Integer.MAX_VALUE}) {
-      check.noIndex(x, "feedKept, slot", () -> x.feedKept(0, slot, 7));
-      check.noIndex(x, "wouldSet, slot", () -> x.wouldSet(slot, 3, 4));
-    }
-    for (int width : new int[] {-1, 3, 21, Integer.MIN_VALUE, Integer.MAX_VALUE}) {
-      check.noArgument(x, "begin, width", () -> x.begin(0, width, 0));
-      check.noArgument(x, "wouldSet, width", () -> x.wouldSet(0, width, 0));
-    }
-    for (int wrong : new int[] {-1, 121, Integer.MIN_VALUE, Integer.MAX_VALUE}) {
-      check.noArgument(x, "begin, indent", () -> x.begin(0, 4, wrong));
-      check.noArgument(x, "wouldSet, indent", () -> x.wouldSet(0, 4, wrong));
-      check.noArgument(x, "feed, seed", () -> x.feed(0, wrong, 0, 0, 0));
-      check.noArgument(x, "feed, from", () -> x.feed(0, 0, wrong, 0, 0));
-      check.noArgument(x, "feed, many", () -> x.feed(0, 0, 0, wrong, 0));
-      check.noArgument(x, "feed, door", () -> x.feed(0, 0, 0, 0, wrong));
-      check.noArgument(x, "feedLetter, letter", () -> x.feedLetter(0, wrong, 0));
-      check.noArgument(x, "feedLetter, door", () -> x.feedLetter(0, 0, wrong));
-      check.noArgument(x, "feedKept, door", () -> x.feedKept(0, 0, wrong));
-      check.noArgument(x, "line, number", () -> x.line(0, wrong));
-      check.noArgument(x, "pressNumber, what", () -> x.pressNumber(0, wrong));
-    }
-    check.noArgument(x, "begin, indent 4", () -> x.begin(0, 4, 4));
-    check.noArgument(x, "wouldSet, indent 4", () -> x.wouldSet(0, 4, 4));
-    check.noArgument(x, "feed, seed 32", () -> x.feed(0, 32, 24, 24, 0));
-    check.noArgument(x, "feed, from 25", () -> x.feed(0, 0, 25, 0, 0));
-    check.noArgument(x, "feed, many 25", () -> x.feed(0, 0, 0, 25, 0));
-    check.noArgument(x, "feed, door 7", () -> x.feed(0, 0, 0, 0, 7));
-    check.noArgument(x, "feedLetter, letter 32", () -> x.feedLetter(0, 32, 0));
-    check.noArgument(x, "feedLetter, door 7", () -> x.feedLetter(0, 0, 7));
-    check.noArgument(x, "feedKept, door 7", () -> x.feedKept(0, 0, 7));
-    check.noArgument(x, "pressNumber, what 7", () -> x.pressNumber(0, 7));
   }
 }

@@ -11,8 +11,6 @@ public final class PutTest {
     kept();
     rows();
     pouring();
-    bounds();
-    wrongInputs();
     check.finish();
   }
 
@@ -142,67 +140,5 @@ public final class PutTest {
     check.due("page on sheet", x.text(0, 0), "afkchm");
     check.act(x, "a page without a sign", () -> x.pour(6, 0), 6);
     check.due("steps", x.steps(0, false), 3);
-  }
-
-  private static void bounds() {
-    for (int writer = 0; writer < 6; writer++) {
-      Manydoors x = new Manydoors();
-      final int at = writer;
-      for (int i = 0; i < 4; i++) {
-        x.putText(at, i, 0, 24, i);
-      }
-      x.takeRow(0, at);
-      x.keepPart(1, at, 0, 25);
-      check.act(x, "23 more", () -> x.putText(at, 0, 0, 23, 0), 119);
-      check.notDone(x, "two letters at 119", () -> x.putText(at, 0, 0, 2, 0));
-      check.act(x, "the last letter", () -> x.putLetter(at, 0, 0), 120);
-      check.notDone(x, "putLetter at 120", () -> x.putLetter(at, 0, 0));
-      check.notDone(x, "putText at 120", () -> x.putText(at, 0, 0, 1, 6));
-      check.notDone(x, "putKept at 120", () -> x.putKept(at, 1, 6));
-      check.notDone(x, "putRow at 120", () -> x.putRow(at, 0, 0, 1));
-      check.notDone(x, "pour at 120", () -> x.pour(at, at));
-      check.act(x, "nothing at 120", () -> x.putText(at, 0, 0, 0, 6), 120);
-      check.act(x, "nothing at 120", () -> x.putKept(at, 0, 6), 120);
-      check.act(x, "nothing at 120", () -> x.putRow(at, 0, 96, 0), 120);
-      check.act(x, "nothing at 120", () -> x.pour(7, at), 120);
-    }
-  }
-
-  private static void wrongInputs() {
-    Manydoors x = filled(1, 0);
-    x.takeRow(0, 1);
-    for (int writer : new int[] {-1, 6, 7, 8, Integer.MIN_VALUE, Integer.MAX_VALUE}) {
-      check.noIndex(x, "putLetter", () -> x.putLetter(writer, 32, 4));
-      check.noIndex(x, "putText", () -> x.putText(writer, -1, 25, 25, 7));
-      check.noIndex(x, "putKept", () -> x.putKept(writer, 0, 7));
-      check.noIndex(x, "putRow", () -> x.putRow(writer, 0, -1, 25));
-      check.noIndex(x, "pour", () -> x.pour(0, writer));
-    }
-    for (int wrong : new int[] {-1, 121, Integer.MIN_VALUE, Integer.MAX_VALUE}) {
-      check.noArgument(x, "putLetter, letter", () -> x.putLetter(0, wrong, 0));
-      check.noArgument(x, "putText, seed", () -> x.putText(0, wrong, 0, 0, 0));
-      check.noArgument(x, "putText, from", () -> x.putText(0, 0, wrong, 0, 0));
-      check.noArgument(x, "putText, many", () -> x.putText(0, 0, 0, wrong, 0));
-      check.noArgument(x, "putText, door", () -> x.putText(0, 0, 0, 0, wrong));
-      check.noIndex(x, "putKept, slot", () -> x.putKept(0, wrong, 7));
-      check.noArgument(x, "putKept, door", () -> x.putKept(0, 0, wrong));
-      check.noIndex(x, "putRow, row", () -> x.putRow(0, wrong, -1, -1));
-      check.noArgument(x, "putRow, from", () -> x.putRow(0, 0, wrong, 0));
-      check.noArgument(x, "putRow, many", () -> x.putRow(0, 0, 0, wrong));
-      check.noIndex(x, "pour, source", () -> x.pour(wrong, 0));
-    }
-    check.noArgument(x, "putLetter, letter 32", () -> x.putLetter(0, 32, 0));
-    check.noArgument(x, "putLetter, high 4", () -> x.putLetter(0, 0, 4));
-    check.noArgument(x, "putLetter, high -4", () -> x.putLetter(0, 0, -4));
-    check.noArgument(x, "putText, seed 32", () -> x.putText(0, 32, 24, 24, 0));
-    check.noArgument(x, "putText, from 25", () -> x.putText(0, 0, 25, 0, 0));
-    check.noArgument(x, "putText, many 25", () -> x.putText(0, 0, 0, 25, 0));
-    check.noArgument(x, "putText, door 7", () -> x.putText(0, 0, 0, 1, 7));
-    check.noIndex(x, "putKept, slot 4", () -> x.putKept(0, 4, 0));
-    check.noArgument(x, "putKept, door 7", () -> x.putKept(0, 0, 7));
-    check.noIndex(x, "putRow, row 2", () -> x.putRow(0, 2, 0, 0));
-    check.noArgument(x, "putRow, many 25", () -> x.putRow(0, 0, 120, 25));
-    check.noIndex(x, "pour, source 8", () -> x.pour(8, 0));
-    check.noIndex(x, "pour, page as target", () -> x.pour(0, 6));
   }
 }

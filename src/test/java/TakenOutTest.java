@@ -10,7 +10,6 @@ public final class TakenOutTest {
     takingRows();
     changingRows();
     longPages();
-    wrongInputs();
     check.finish();
   }
 
@@ -132,37 +131,5 @@ public final class TakenOutTest {
     check.notDone(x, "too long to feed", () -> x.feedKept(0, 0, 0));
     check.due("the last place asked", x.signAt(7, 120), 32);
     check.due("sound", x.isSound(), true);
-  }
-
-  private static void wrongInputs() {
-    Manydoors x = new Manydoors();
-    x.putText(3, 0, 0, 10, 0);
-    x.takeRow(0, 3);
-    x.keep(0, 3);
-    for (int roll : new int[] {-1, 0, 2, 6, 8, Integer.MIN_VALUE, Integer.MAX_VALUE}) {
-      check.noIndex(x, "reset", () -> x.reset(roll));
-      check.noIndex(x, "mark", () -> x.mark(roll));
-      check.noIndex(x, "back", () -> x.back(roll));
-    }
-    for (int wrong : new int[] {-1, 8, Integer.MIN_VALUE, Integer.MAX_VALUE}) {
-      check.noIndex(x, "keep, slot", () -> x.keep(wrong, 0));
-      check.noIndex(x, "keep, writer", () -> x.keep(0, wrong));
-      check.noIndex(x, "keepPart, slot", () -> x.keepPart(wrong, 0, 121, 121));
-      check.noIndex(x, "keepPart, writer", () -> x.keepPart(0, wrong, 121, 121));
-      check.noIndex(x, "takeRow, row", () -> x.takeRow(wrong, 0));
-      check.noIndex(x, "takeRow, writer", () -> x.takeRow(0, wrong));
-      check.noIndex(x, "changeRow, row", () -> x.changeRow(wrong, 0, 32));
-    }
-    for (int wrong : new int[] {-1, 121, Integer.MIN_VALUE, Integer.MAX_VALUE}) {
-      check.noArgument(x, "keepPart, from", () -> x.keepPart(0, 3, wrong, 0));
-      check.noArgument(x, "keepPart, to", () -> x.keepPart(0, 3, 0, wrong));
-      check.noIndex(x, "changeRow, place", () -> x.changeRow(0, wrong, 32));
-      check.noArgument(x, "changeRow, letter", () -> x.changeRow(0, 120, wrong));
-    }
-    check.noIndex(x, "keep, slot 4", () -> x.keep(4, 0));
-    check.noIndex(x, "keepPart, slot 4", () -> x.keepPart(4, 0, 0, 0));
-    check.noIndex(x, "takeRow, row 2", () -> x.takeRow(2, 0));
-    check.noIndex(x, "changeRow, row 2", () -> x.changeRow(2, 0, 0));
-    check.noArgument(x, "changeRow, letter 32", () -> x.changeRow(0, 0, 32));
   }
 }

@@ -28,9 +28,6 @@ public final class WholeTest {
     check.due("it is not counted", x.house(1), 2);
     check.due("acts still", x.house(0), 7);
     check.due("knocks", x.house(2), 0);
-    for (int what : new int[] {-1, 3, Integer.MIN_VALUE, Integer.MAX_VALUE}) {
-      check.noArgument(x, "house", () -> x.house(what));
-    }
   }
 
   private static void knocks() {
