@@ -126,7 +126,8 @@ public final class AskedEdgesTest {
   private static void signsOfAllNumbers() {
     for (int letter = 0; letter < 32; letter++) {
       int put = letter;
-      edge.asked("letter " + letter, x -> x.putLetter(0, put, 0), x -> x.signAt(0, 0), (int) Filled.LETTERS.charAt(letter));
+      int due = Filled.LETTERS.charAt(letter);
+      edge.asked("letter " + letter, x -> x.putLetter(0, put, 0), x -> x.signAt(0, 0), due);
     }
     for (int digit = 0; digit < 10; digit++) {
       int put = digit;

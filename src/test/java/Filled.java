@@ -53,7 +53,7 @@ final class Filled {
     x.reset(5);
   }
 
-  /** A page of 240 signs at most, but not 238 or 239: each five of them are an indented word and a slash. */
+  /** A page of up to 240 signs, the longest there is (but not 238 or 239): indented words, each with a slash. */
   static void page(Manydoors x, int press, int length) {
     x.begin(press, 4, 3);
     for (int i = 0; i < length / 5; i++) {

@@ -4,7 +4,10 @@ import java.util.Arrays;
 import java.util.HashMap;
 import java.util.Map;
 
-/** Runs of 512 calls (what later calls answer is free), arguments in and out of their bounds, compared with PlainModel (promises 1 to 46). */
+/**
+ * Runs of 512 calls (what later calls answer is free), arguments in and out of their bounds, compared with
+ * PlainModel (promises 1 to 46).
+ */
 public final class ModelTest {
   // The last one is that of digest(); where that is called behind each one, they are twice as many.
   private static final int CALLS = 512;

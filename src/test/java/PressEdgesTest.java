@@ -55,17 +55,18 @@ public final class PressEdgesTest {
     }, x -> x.text(7, 0), page);
   }
 
-  /** Feeds one more sign and looks at the press: its page, its word, its gap. */
+  /** A press that is new and is fed these signs: its page, its word, its gap. */
   private static void stateDue(String signs, String page, String word, int gap) {
-    String due = page + "|" + word + "|" + gap + "|" + signs.length();
     for (int press : Filled.PRESSES) {
-      edge.asked("behind " + signs, x -> Filled.fedWith(x, press, signs),
-          x -> x.text(6 + press, 0) + "|" + x.word(press) + "|" + x.pressNumber(press, 3) + "|" + x.pressNumber(press, 5),
-          due);
+      Edge.Setting fed = x -> Filled.fedWith(x, press, signs);
+      edge.asked("page behind " + signs, fed, x -> x.text(6 + press, 0), page);
+      edge.asked("word behind " + signs, fed, x -> x.word(press), word);
+      edge.asked("gap behind " + signs, fed, x -> x.pressNumber(press, 3), gap);
+      edge.asked("fed behind " + signs, fed, x -> x.pressNumber(press, 5), signs.length());
     }
   }
 
-  /** "Each has a WIDTH (at first 12), an INDENT (at first 0), a PAGE, a WORD, a FED (.. without a SIGN), and a GAP (.. at first 0)." */
+  /** "Each has a WIDTH (at first 12), an INDENT (at first 0), a PAGE, a WORD, a FED .., and a GAP (.. at first 0)." */
   private static void pressesAtFirst() {
     int[] due = {12, 0, 0, 0, 0, 0, 1};
     for (int press : Filled.PRESSES) {
@@ -75,8 +76,9 @@ public final class PressEdgesTest {
       }
       edge.asked("page", Edge.NEW, x -> x.text(6 + press, 0), "");
       edge.asked("word", Edge.NEW, x -> x.word(press), "");
-      edge.asked("width 12", x -> Filled.fedWith(x, press, "abcdef ghijk "), x -> x.text(6 + press, 0), "abcdef ghijk");
-      edge.asked("width 12", x -> Filled.fedWith(x, press, "abcdef ghijkl "), x -> x.text(6 + press, 0), "abcdef/ghijkl");
+      Edge.Call page = x -> x.text(6 + press, 0);
+      edge.asked("width 12", x -> Filled.fedWith(x, press, "abcdef ghijk "), page, "abcdef ghijk");
+      edge.asked("width 12", x -> Filled.fedWith(x, press, "abcdef ghijkl "), page, "abcdef/ghijkl");
     }
   }
 

@@ -1,4 +1,4 @@
-/** Promises 16 to 22 and 38 at their edges, and the MARKS of 'Terms' 3; each method stands for a sentence of the document. */
+/** Promises 16 to 22 and 38, and the MARKS of 'Terms' 3, at their edges; each method stands for a sentence. */
 public final class TakenOutEdgesTest {
   private static final Check check = new Check("TakenOutEdgesTest");
   private static final Edge edge = new Edge(check);

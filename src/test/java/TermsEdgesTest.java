@@ -24,7 +24,7 @@ public final class TermsEdgesTest {
     check.finish();
   }
 
-  /** 1: "LETTERS are numbered 0 to 31: 0 to 25 are "a" to "z", 26 to 28 the SPACE, 29 the COMMA, 30 and 31 the SLASH." */
+  /** 1: "LETTERS are numbered 0 to 31": "a" to "z", 26 to 28 the SPACE, 29 the COMMA, 30 and 31 the SLASH. */
   private static void lettersAndTheirSigns() {
     int[] edges = {0, 25, 26, 28, 29, 30, 31};
     int[] signs = {97, 122, 32, 32, 44, 47, 47};
@@ -52,7 +52,8 @@ public final class TermsEdgesTest {
       x.feedLetter(0, letter, 0);
       check.due("letter " + letter + " in a word", x.word(0), letter < 26 ? due : "");
       check.due("letter " + letter + " on a page", x.text(6, 0), letter > 29 ? due : "");
-      check.due("letter " + letter + " and the gap", x.pressNumber(0, 3), letter == 29 ? 2 : letter > 25 && letter < 29 ? 1 : 0);
+      int gap = letter == 29 ? 2 : letter > 25 && letter < 29 ? 1 : 0;
+      check.due("letter " + letter + " and the gap", x.pressNumber(0, 3), gap);
     }
   }
 
@@ -73,7 +74,7 @@ public final class TermsEdgesTest {
     check.due("it makes no gap", x.pressNumber(1, 3), 0);
   }
 
-  /** 1: "There are 32 TEXTS. Each has 24 SIGNS: at the place i the LETTER that remains of seed + 5 * i divided by 32." */
+  /** 1: "Each has 24 SIGNS: at the place i the LETTER .. that remains of seed + 5 * i divided by 32." */
   private static void textsAndTheirSigns() {
     check.due("text 0", Filled.seeded(0), "afkpuz/dinsx bglqv /ejot");
     for (int seed = 0; seed < 32; seed++) {
