@@ -806,12 +806,14 @@ public final class Manydoors {
     int orderTo(Signs other) {
       int shared = Math.min(count, other.count);
       for (int i = 0; i < shared; i++) {
-        int order = Integer.compare(signOf(i), other.signOf(i));
-        if (order != 0) {
-          return order;
+        if (signOf(i) != other.signOf(i)) {
+          return signOf(i) < other.signOf(i) ? -1 : 1;
         }
       }
-      return Integer.compare(count, other.count);
+      if (count == other.count) {
+        return 0;
+      }
+      return count < other.count ? -1 : 1;
     }
 
     int firstPlaceOf(Signs sought) {

@@ -154,7 +154,27 @@ public final class FaceTest {
       check.due("how often " + one + " stands in the class", found.results().count(), 0L);
     }
     check.due("signs above 127", text.chars().filter(sign -> sign > 127).count(), 0L);
+    namesAreListed(code);
     methodsAreShort(text);
+  }
+
+  /** No class is named but the class's own and those that rules 3, 4 and 6 list, no function but rule 4's. */
+  private static void namesAreListed(String code) {
+    List<String> listed = new ArrayList<>(List.of("Manydoors", "String", "Math", "System"));
+    listed.addAll(List.of("IndexOutOfBoundsException", "IllegalArgumentException"));
+    for (Class<?> inside : Manydoors.class.getDeclaredClasses()) {
+      listed.add(inside.getSimpleName());
+    }
+    String written = code.replaceAll("\"[^\"]*\"", "");
+    Matcher name = Pattern.compile("\\b[A-Z]\\w*[a-z]\\w*").matcher(written);
+    while (name.find()) {
+      check.due(name.group() + " is listed", listed.contains(name.group()), true);
+    }
+    List<String> functions = List.of("Math.min", "Math.max", "Math.abs", "Math.floorMod", "System.arraycopy");
+    Matcher function = Pattern.compile("\\b(Math|System|String)\\.\\w+").matcher(written);
+    while (function.find()) {
+      check.due(function.group() + " is listed", functions.contains(function.group()), true);
+    }
   }
 
   private static void methodsAreShort(String text) {
